@@ -26,7 +26,7 @@ public final class ItByRhyme {
     private static final int SLIP = 2;
     private static final int MOOD = 3;
     private static final int TERMS = 4;
-    private static final int[] HIGHEST_TERMS = {LAST_ROUND, 5, 10, 9};
+    private static final int[] HIGHEST_TERMS = {999, 5, 10, 9};
 
     // What a CLAUSE of a LAW does; asks() numbers its questions alike.
     private static final int BEATS = 0;
@@ -1302,7 +1302,7 @@ public final class ItByRhyme {
             if (start / PLACES == goal) {
                 return start;
             }
-            for (int i = 0; i < reached; i++) {
+            for (int i = 0; i < reached && i < STATES; i++) {
                 int state = queue[i];
                 for (int rhyme = 0; rhyme < ring.rhymes && goesOn(state); rhyme++) {
                     int next = voice.after(state, rhyme);
