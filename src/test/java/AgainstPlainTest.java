@@ -36,7 +36,7 @@ public final class AgainstPlainTest {
             for (int i = below(5) + 2; i > 0; i--) one(0);
             for (int i = below(5) + 1; i > 0; i--) one(1);
         }
-        for (int i = calls.size(); i < CALLS && wrong == 0; i = calls.size()) one(below(46));
+        for (int i = calls.size(); i < CALLS && wrong == 0; i = calls.size()) one(below(47));
         return wrong;
     }
 
@@ -102,7 +102,23 @@ public final class AgainstPlainTest {
             case 42 -> { int k = mostly(0, 1); due("drawn " + a + " " + k, x.drawn(a, k), p.drawn(a, k)); }
             case 43 -> { int k = mostly(0, 1); if (below(3) == 0) due("image " + k, x.image(k), p.image(k)); }
             case 44 -> { int k = mostly(0, 1); if (below(5) == 0) due("back " + k, x.back(k), p.back(k)); }
+            case 45 -> otherRing();
             default -> { int k = mostly(0, 15); due("count " + k, x.count(k), p.count(k)); due("status", x.status(), p.status()); }
+        }
+    }
+
+    /** The ring goes back, and numbers that it gave up are given anew to others. */
+    private void otherRing() {
+        if (below(6) != 0) return;
+        int k = below(2);
+        due("image " + k, x.image(k), p.image(k));
+        for (int turn = 0; turn < 2; turn++) {
+            one(0);
+            one(1);
+            one(9);
+            one(14);
+            for (int j = below(6); j > 0; j--) one(28 + below(13));
+            due("back " + k, x.back(k), p.back(k));
         }
     }
 

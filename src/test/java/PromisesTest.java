@@ -17,6 +17,7 @@ public final class PromisesTest {
         undoSixteen();
         undoIsCut();
         imageAndBack();
+        imagesOfOtherRings();
         counts();
         statusOfEach();
         d.close();
@@ -139,6 +140,7 @@ public final class PromisesTest {
         d.due("still too full", x.feed(0, 0, 0, 0, 0), -1);
         d.due("end", x.end(380), 380);
         d.due("just room", x.feed(0, 0, 0, 0, 0), 400);
+        d.due("end of all", x.end(400), 400);
         d.due("end 0", x.end(0), 0);
         d.due("end 1 of 0", x.end(1), -1);
         d.due("not refusals", x.count(6), 0);
@@ -213,6 +215,10 @@ public final class PromisesTest {
         d.due("one is in", x.say(0), -3);
         d.due("no such one, though one is in", x.say(-1), -2);
         d.due("falls: one is in", x.falls(0, 0), -1);
+        ItByRhyme z = Due.ring(2, 15);
+        d.due("the fifteenth", z.falls(0, 15), 0);
+        d.due("the fourteenth", z.falls(0, 14), 1);
+        d.due("said", z.say(0), 0);
         ItByRhyme y = Due.ring(3, 1);
         y.terms(1, 5);
         d.due("AT modulo children", y.falls(0, 0), 2);
@@ -285,6 +291,15 @@ public final class PromisesTest {
         for (int i = 0; i < 16; i++) d.due("undone", x.undo(), i % 2 == 0 ? 1 : 2);
         d.due("none is left", x.undo(), -3);
         d.due("as behind the second", x.of(0, 1), 1);
+        for (int i = 0; i < 8; i++) {
+            x.leave(0);
+            x.join(0);
+        }
+        x.pass();
+        d.due("the newest", x.undo(), 3);
+        for (int i = 0; i < 15; i++) x.undo();
+        d.due("the oldest of seventeen is gone", x.of(0, 1), 0);
+        x.join(0);
         x.terms(1, 5);
         x.say(0);
         d.due("at", x.count(13), 1);
@@ -367,6 +382,26 @@ public final class PromisesTest {
         d.due("its children", x.count(0), 4);
         d.due("again", x.back(0), 0);
         d.due("its children", x.count(0), 3);
+    }
+
+    /** Numbers that an image gave up are given anew: each image has its own bearers of them. */
+    private static void imagesOfOtherRings() {
+        d.part("33: others");
+        ItByRhyme x = Due.ring(2, 4);
+        x.image(0);
+        x.child(5);
+        x.rhyme(6);
+        Due.law(x, "beats 7");
+        x.force(0);
+        x.image(1);
+        x.back(0);
+        x.child(8);
+        x.rhyme(9);
+        Due.law(x, "beats 10");
+        x.force(0);
+        d.dues("the new ones", new long[] {x.of(2, 0), x.beats(1), x.asks(1, 2, 0, 0)}, 8, 9, 10);
+        x.back(1);
+        d.dues("the old ones", new long[] {x.of(2, 0), x.beats(1), x.asks(1, 2, 0, 0)}, 5, 6, 7);
     }
 
     private static void counts() {

@@ -50,6 +50,8 @@ public final class TextsTest {
         fault(true, "beats 5", -1);
         fault(true, "  beats5if child=1", -1);
         fault(true, "Beats 5", 0);
+        fault(true, "skipsz", 0);
+        fault(true, "skip", 0);
         fault(true, "skips;", 6);
         fault(true, "skips;  ", 8);
         fault(true, ";skips", 0);
@@ -214,6 +216,8 @@ public final class TextsTest {
         test("not not 1=2", false);
         test("not 1=2 and 1=2", false);
         test("not (1=2 and 1=2)", true);
+        test("not 1=1 or 1=2", false);
+        test("not 1=1", false);
         test("not not not (1=1)", false);
         test("((1=1) and (not (2=1)))", true);
         test("[1]<[[2]]", true);
@@ -248,6 +252,9 @@ public final class TextsTest {
         d.due("in, quick", Due.orders(x, "leave 1 if in 1=1;leave 2 if in 1=0;leave 3 if in 4=0-1 and quick 3=4;"
             + "join 3 if quick 4=0-1"), 4);
         d.due("in", x.count(1), 2);
+        ItByRhyme z = Due.ring(3, 1);
+        d.due("in 0, quick 0, a latest of 0", Due.orders(z, "say 0 if in 0=1 and quick 0=1;join 0 if in 0=0;pass if latest=0"), 3);
+        d.due("none are in", Due.orders(z, "leave 0;leave 1;leave 2;pass"), 4);
         ItByRhyme y = Due.ring(3, 1);
         Due.law(y, "keeps");
         y.force(0);
