@@ -114,14 +114,14 @@ public final class ItByRhyme {
             return NONE;
         }
         int many = Integer.bitCount(ring.in);
-        voice.tune(ring.lawInForce(), ring.terms[ROUND]);
+        tuneVoice();
         switch (what) {
             case BEATS:
                 return voice.lengthOf(rhyme, child, many);
             case SKIPS:
             case TURNS:
             case KEEPS:
-                return voice.weigh(what, rhyme, child, b, many) ? 1 : 0;
+                return voice.isSo(what, rhyme, child, b, many) ? 1 : 0;
             default:
                 return NONE;
         }
@@ -200,8 +200,7 @@ public final class ItByRhyme {
         if (latestFault != NONE) {
             return refused(UNREADABLE);
         }
-        int done = runWhollyOrNot(reader.draft);
-        return done < 0 ? refused(done) : settled(done);
+        return answered(runWhollyOrNot(reader.draft));
     }
 
     public int fault() {
@@ -222,8 +221,7 @@ public final class ItByRhyme {
     }
 
     public int say(int rhyme) {
-        int answer = perform(SAYS, rhyme);
-        return answer < 0 ? refused(answer) : settled(answer);
+        return answered(performSaying(rhyme));
     }
 
     public int falls(int rhyme, int b) {
@@ -233,24 +231,21 @@ public final class ItByRhyme {
         if (b == 0) {
             return voice.firstIn(ring.in, ring.place());
         }
-        voice.tune(ring.lawInForce(), ring.terms[ROUND]);
+        tuneVoice();
         voice.speak(ring.in, ring.place(), rhyme, 0);
         return b > voice.spoken ? NONE : voice.fallen[b];
     }
 
     public int join(int child) {
-        int answer = perform(JOINS, child);
-        return answer < 0 ? refused(answer) : settled(answer);
+        return answered(performMove(JOINS, child));
     }
 
     public int leave(int child) {
-        int answer = perform(LEAVES, child);
-        return answer < 0 ? refused(answer) : settled(answer);
+        return answered(performMove(LEAVES, child));
     }
 
     public int pass() {
-        int answer = perform(PASSES, 0);
-        return answer < 0 ? refused(answer) : settled(answer);
+        return answered(performRound());
     }
 
     public int undo() {
@@ -262,7 +257,7 @@ public final class ItByRhyme {
         if (ring.lacksRhyme(rhyme)) {
             return NONE;
         }
-        voice.tune(ring.lawInForce(), ring.terms[ROUND]);
+        tuneVoice();
         int who = paper.lastBy(ring.state(), rhyme);
         if (i == NONE) {
             return who;
@@ -274,7 +269,7 @@ public final class ItByRhyme {
         if (ring.lacksChild(child) || ring.lacksRhyme(rhyme)) {
             return NONE;
         }
-        voice.tune(ring.lawInForce(), ring.terms[ROUND]);
+        tuneVoice();
         int places = 0;
         for (int at = 0; at < ring.children; at++) {
             if (paper.lastBy(ring.in * PLACES + at, rhyme) == child) {
@@ -288,7 +283,7 @@ public final class ItByRhyme {
         if (ring.lacksChild(child)) {
             return NONE;
         }
-        voice.tune(ring.lawInForce(), ring.terms[ROUND]);
+        tuneVoice();
         int goal = paper.reach(ring.state(), 1 << child);
         if (goal == NONE) {
             return NONE;
@@ -304,7 +299,7 @@ public final class ItByRhyme {
         if (what != 0 && what != 1) {
             return NONE;
         }
-        voice.tune(ring.lawInForce(), ring.terms[ROUND]);
+        tuneVoice();
         int it = paper.play(ring.state());
         return what == 0 ? it : paper.chosen;
     }
@@ -313,7 +308,7 @@ public final class ItByRhyme {
         if (ring.lacksChild(child) || ring.rhymes == 0 || n < 0 || n > 20) {
             return NONE;
         }
-        voice.tune(ring.lawInForce(), ring.terms[ROUND]);
+        tuneVoice();
         return paper.partsIn(ring.state(), child, n);
     }
 
@@ -321,7 +316,7 @@ public final class ItByRhyme {
         if (k < 0 || k > 4 || i < NONE) {
             return NONE;
         }
-        voice.tune(ring.lawInForce(), ring.terms[ROUND]);
+        tuneVoice();
         int found = paper.rowsSaid(k, i);
         if (i == NONE || found == NONE) {
             return found;
@@ -430,24 +425,21 @@ public final class ItByRhyme {
         return by;
     }
 
+    /** For answers that are never negative but by a refusal. */
+    private int answered(int answer) {
+        return answer < 0 ? refused(answer) : settled(answer);
+    }
+
     private void ringChanged() {
         past.forget();
         voice.forget();
     }
 
-    /** A saying, joining, leaving or round: its answer, or what it is refused by. */
-    private int perform(int kind, int number) {
-        switch (kind) {
-            case SAYS:
-                return performSaying(number);
-            case JOINS:
-            case LEAVES:
-                return performMove(kind, number);
-            default:
-                return performRound();
-        }
+    private void tuneVoice() {
+        voice.tune(ring.lawInForce(), ring.terms[ROUND]);
     }
 
+    /** A saying's answer, or what it is refused by; so do the two behind it. */
     private int performSaying(int rhyme) {
         if (ring.lacksRhyme(rhyme)) {
             return UNKNOWN;
@@ -455,7 +447,7 @@ public final class ItByRhyme {
         if (Integer.bitCount(ring.in) < 2) {
             return NOT_NOW;
         }
-        voice.tune(ring.lawInForce(), ring.terms[ROUND]);
+        tuneVoice();
         int told = voice.speak(ring.in, ring.place(), rhyme, 0);
         past.keep(SAYS, ring);
         ring.settle(voice.stateBehind(ring.in, told));
@@ -496,7 +488,8 @@ public final class ItByRhyme {
         for (int c = 0; c < script.clauses; c++) {
             for (int time = 0; time < script.times[c]; time++) {
                 gatherFacts(done, latest);
-                if (!script.applies(c, facts, stack)) {
+                int test = script.tests[c];
+                if (test != 0 && script.worth(test, facts, stack) != 1) {
                     continue;
                 }
                 int answer = runClause(script, c);
@@ -524,7 +517,15 @@ public final class ItByRhyme {
                 return NOT_NOW;
             }
         }
-        return perform(script.kinds[c], number);
+        switch (script.kinds[c]) {
+            case SAYS:
+                return performSaying(number);
+            case JOINS:
+            case LEAVES:
+                return performMove(script.kinds[c], number);
+            default:
+                return performRound();
+        }
     }
 
     /** The words of ORDERS, in the order of Reader.ORDER_WORDS. */
@@ -726,11 +727,6 @@ public final class ItByRhyme {
             return (kindsUsed >> kind & 1) == 1;
         }
 
-        /** Whether the "if" of a CLAUSE, if it has one, is so and not BROKEN. */
-        private boolean applies(int c, int[] facts, int[] stack) {
-            return tests[c] == 0 || worth(tests[c], facts, stack) == 1;
-        }
-
         /** What the codes from a place on tell: a number, 1 or 0 for a TEST, or BROKEN. */
         private int worth(int from, int[] facts, int[] stack) {
             int at = from;
@@ -739,8 +735,8 @@ public final class ItByRhyme {
             for (int steps = 0; steps < size && at > 0 && at < size && top < stack.length; steps++) {
                 int op = code[at];
                 int given = at + 1 < size ? code[at + 1] : 0;
-                if (op == NUMBER || op == WORD) {
-                    stack[top] = op == NUMBER ? given : factOf(facts, given);
+                if (op == NUMBER || op == WORD && given >= 0 && given < facts.length) {
+                    stack[top] = op == NUMBER ? given : facts[given];
                     top++;
                     at += 2;
                     continue;
@@ -770,10 +766,6 @@ public final class ItByRhyme {
             return BROKEN;
         }
 
-        private static int factOf(int[] facts, int number) {
-            return number >= 0 && number < facts.length ? facts[number] : BROKEN;
-        }
-
         private static int joined(int sign, long a, long b) {
             long value;
             switch (sign) {
@@ -792,11 +784,15 @@ public final class ItByRhyme {
                 case '*':
                     value = a * b;
                     break;
-                default:
+                case '/':
+                case '%':
                     if (b == 0) {
                         return BROKEN;
                     }
                     value = sign == '/' ? a / b : a % b;
+                    break;
+                default:
+                    return BROKEN;
             }
             return value > MOST || value < -MOST ? BROKEN : (int) value;
         }
@@ -851,25 +847,16 @@ public final class ItByRhyme {
             stop = 0;
             draft.clear();
             step();
-            boolean readable = clauseRow();
-            length = 0;
-            return readable ? NONE : start;
-        }
-
-        private boolean clauseRow() {
-            for (int c = 0; c < Script.CLAUSES; c++) {
-                if (!clause(c)) {
-                    return false;
-                }
-                if (kind == AT_END) {
-                    return true;
-                }
+            boolean whole = false;
+            for (int c = 0; c < Script.CLAUSES && clause(c); c++) {
+                whole = kind == AT_END;
                 if (!isSign(';')) {
-                    return false;
+                    break;
                 }
                 step();
             }
-            return false;
+            length = 0;
+            return whole ? NONE : start;
         }
 
         private boolean clause(int c) {
@@ -1042,7 +1029,8 @@ public final class ItByRhyme {
                 }
                 while (kind != LETTERS && i < length && tape[i] >= '0' && tape[i] <= '9') {
                     kind = DIGITS;
-                    number = Math.min(number * 10 + tape[i] - '0', HIGHEST_NUMBER + 1);
+                    // Beyond the highest one it is a FAULT anyway, however many digits follow.
+                    number = number > HIGHEST_NUMBER ? number : number * 10 + tape[i] - '0';
                     i++;
                 }
                 if (kind == SIGN) {
@@ -1081,14 +1069,12 @@ public final class ItByRhyme {
 
     /** How a RHYME goes when it is said, by the LAW and the ROUND to which it was tuned. */
     private static final class Voice {
-        private static final int MOST_MANY = 5;
-
         private final Ring ring;
         private final int[] facts = new int[7];
         private final int[] stack = new int[Script.STACK];
         private final int[] fallen = new int[LONGEST + 1];
         // What was asked and said once is kept while the stamp is the same: the paper asks it often.
-        private final int[] asked = new int[RHYMES * CHILDREN * LONGEST * MOST_MANY];
+        private final int[] asked = new int[RHYMES * CHILDREN * (LONGEST + 1) * (CHILDREN + 1)];
         private final int[] behind = new int[RHYMES * STATES];
         private int stamp = 1;
         private Script law = null;
@@ -1183,7 +1169,8 @@ public final class ItByRhyme {
             }
             gatherFacts(rhyme, child, 0, many);
             for (int c = law.clauses - 1; c >= 0; c--) {
-                if (law.kinds[c] == BEATS && law.applies(c, facts, stack)) {
+                int test = law.tests[c];
+                if (law.kinds[c] == BEATS && (test == 0 || law.worth(test, facts, stack) == 1)) {
                     int told = law.worth(law.sums[c], facts, stack);
                     if (told != BROKEN) {
                         return Math.max(1, Math.min(LONGEST, told));
@@ -1193,38 +1180,25 @@ public final class ItByRhyme {
             return beats;
         }
 
+        /** Whether a CLAUSE of that kind HOLDS. */
         private boolean isSo(int kind, int rhyme, int child, int beat, int many) {
-            if (law == null || !law.has(kind)) {
+            int cell = ((rhyme * CHILDREN + child) * (LONGEST + 1) + beat) * (CHILDREN + 1) + many;
+            if (law == null || !law.has(kind) || cell < 0 || cell >= asked.length) {
                 return false;
-            }
-            int cell = ((rhyme * CHILDREN + child) * LONGEST + beat - 1) * MOST_MANY + many - 2;
-            if (cell < 0 || cell >= asked.length) {
-                return weigh(kind, rhyme, child, beat, many);
             }
             // Below the stamp: bits 0 .. 3 tell what was asked, bits 4 .. 7 what was so.
             int kept = asked[cell] >> 8 == stamp ? asked[cell] : stamp << 8;
-            if ((kept >> kind & 1) == 0) {
-                kept |= 1 << kind;
-                if (weigh(kind, rhyme, child, beat, many)) {
-                    kept |= 16 << kind;
-                }
-                asked[cell] = kept;
+            if ((kept >> kind & 1) == 1) {
+                return (kept >> kind & 16) != 0;
             }
-            return (kept >> kind & 16) != 0;
-        }
-
-        /** Whether a CLAUSE of that kind HOLDS. */
-        private boolean weigh(int kind, int rhyme, int child, int beat, int many) {
-            if (law == null || !law.has(kind)) {
-                return false;
-            }
+            boolean so = false;
             gatherFacts(rhyme, child, beat, many);
-            for (int c = 0; c < law.clauses; c++) {
-                if (law.kinds[c] == kind && law.applies(c, facts, stack)) {
-                    return true;
-                }
+            for (int c = 0; c < law.clauses && !so; c++) {
+                int test = law.tests[c];
+                so = law.kinds[c] == kind && (test == 0 || law.worth(test, facts, stack) == 1);
             }
-            return false;
+            asked[cell] = kept | (so ? 17 : 1) << kind;
+            return so;
         }
 
         /** The words of LAWS, in the order of Reader.LAW_WORDS. */
@@ -1348,7 +1322,10 @@ public final class ItByRhyme {
             for (int i = 0; i < reached; i++) {
                 now[queue[i]] = onlyOneIn(queue[i]);
             }
-            for (int sayings = 0; sayings < GAME_SAYINGS && ring.rhymes > 0; sayings++) {
+            // What one saying more did not change, no further one changes.
+            boolean changed = ring.rhymes > 0;
+            for (int sayings = 0; sayings < GAME_SAYINGS && changed; sayings++) {
+                changed = false;
                 for (int i = 0; i < reached; i++) {
                     int state = queue[i];
                     ahead[state] = now[state];
@@ -1356,6 +1333,7 @@ public final class ItByRhyme {
                         int choice = choose(state, now);
                         ahead[state] = now[voice.after(state, choice)];
                         chosen = state == start ? choice : chosen;
+                        changed = changed || ahead[state] != now[state];
                     }
                 }
                 int[] other = now;
@@ -1380,12 +1358,17 @@ public final class ItByRhyme {
             long[] now = parts;
             long[] then = partsBehind;
             Arrays.fill(now, 0);
+            Arrays.fill(then, 0);
             now[start] = ALL_PARTS;
-            for (int i = 0; i < n; i++) {
-                Arrays.fill(then, 0);
-                for (int state = 0; state < STATES; state++) {
+            int states = Math.min(STATES, (ring.everyone() + 1) * PLACES);
+            boolean spoken = true;
+            for (int i = 0; i < n && spoken; i++) {
+                spoken = false;
+                for (int state = 0; state < states; state++) {
                     if (now[state] != 0) {
                         handOn(state, now[state], then);
+                        now[state] = 0;
+                        spoken = spoken || goesOn(state);
                     }
                 }
                 long[] other = now;
@@ -1393,7 +1376,7 @@ public final class ItByRhyme {
                 then = other;
             }
             long sum = 0;
-            for (int state = 0; state < STATES; state++) {
+            for (int state = 0; state < states; state++) {
                 if ((state / PLACES >> child & 1) == 1) {
                     sum += now[state];
                 }
