@@ -259,7 +259,8 @@ public final class ItByRhyme {
         }
         tuneVoice();
         int who = paper.lastBy(ring.state(), rhyme);
-        if (i == NONE) {
+        // Without one who is LEFT there is no i-th OUT either.
+        if (i == NONE || who == NONE) {
             return who;
         }
         return i < 0 || i >= paper.gone ? NONE : paper.wentOut[i];
@@ -343,7 +344,7 @@ public final class ItByRhyme {
     }
 
     public int drawn(int child, int what) {
-        if (!draws.kept || ring.lacksChild(child)) {
+        if (child < 0 || child >= draws.children) {
             return NONE;
         }
         switch (what) {
@@ -1069,6 +1070,9 @@ public final class ItByRhyme {
 
     /** How a RHYME goes when it is said, by the LAW and the ROUND to which it was tuned. */
     private static final class Voice {
+        // A stamp and a state, or a stamp and eight bits, still make an int.
+        private static final int LAST_STAMP = 1000000;
+
         private final Ring ring;
         private final int[] facts = new int[7];
         private final int[] stack = new int[Script.STACK];
@@ -1088,11 +1092,16 @@ public final class ItByRhyme {
 
         private void forget() {
             stamp++;
+            if (stamp > LAST_STAMP) {
+                stamp = 1;
+                Arrays.fill(asked, 0);
+                Arrays.fill(behind, 0);
+            }
         }
 
         private void tune(Script newLaw, int newRound) {
             if (newLaw != law || newRound != round || ring.terms[MOOD] != mood) {
-                stamp++;
+                forget();
                 law = newLaw;
                 round = newRound;
                 mood = ring.terms[MOOD];
@@ -1444,7 +1453,8 @@ public final class ItByRhyme {
         private final Ring ring;
         private final Voice voice;
         private final int[] timesAlone = new int[CHILDREN];
-        private boolean kept = false;
+        // Those of the latest QUARTERS: the ring may have more or less of them since.
+        private int children = 0;
         private int in = 0;
         private long seed = 0;
 
@@ -1464,7 +1474,7 @@ public final class ItByRhyme {
             int state = ring.state();
             int passed = 0;
             seed = newSeed;
-            kept = true;
+            children = ring.children;
             Arrays.fill(timesAlone, 0);
             for (int i = 0; i < sayings; i++) {
                 if (!Paper.goesOn(state)) {

@@ -117,8 +117,9 @@ public final class AgainstPlainTest {
             one(1);
             one(9);
             one(14);
-            for (int j = below(6); j > 0; j--) one(28 + below(13));
+            for (int j = below(6); j > 0; j--) one(28 + below(15));
             due("back " + k, x.back(k), p.back(k));
+            one(42);
         }
     }
 

@@ -15,6 +15,7 @@ public final class PaperTest {
         quarters();
         quartersByLaws();
         drawn();
+        drawnBehindBack();
         changesAreSeen();
         d.close();
     }
@@ -43,8 +44,14 @@ public final class PaperTest {
         Due.law(x, "keeps if many=2");
         x.force(0);
         d.due("not in 60 sayings", x.left(0, -1), -1);
-        d.due("who is out all the same", x.left(0, 0), 0);
-        d.due("not so many", x.left(0, 1), -1);
+        d.due("nor is anyone the first out", x.left(0, 0), -1);
+        d.due("nor the second", x.left(0, 1), -1);
+        x.leave(0);
+        x.leave(1);
+        d.due("one is in already", x.left(0, -1), 2);
+        d.due("nobody went out", x.left(0, 0), -1);
+        x.join(0);
+        x.join(1);
         Due.law(x, "keeps if child<2 and many=3");
         x.force(1);
         d.dues("stays count as sayings", new long[] {x.left(0, -1), x.left(0, 0), x.left(0, 1)}, 1, 2, 0);
@@ -294,7 +301,32 @@ public final class PaperTest {
         d.due("no child", x.drawn(3, 0), -1);
         d.due("no child", x.drawn(-1, 0), -1);
         x.child(1);
-        d.due("one who came later was not in them", x.drawn(3, 1), 0);
+        d.due("one who came later was not in them", x.drawn(3, 0), -1);
+        d.due("nor is it in behind them", x.drawn(3, 1), -1);
+        d.due("a refused one", x.quarters(1, 0), -1);
+        d.due("changes nothing of that", x.drawn(3, 1), -1);
+        x.quarters(1, 1);
+        d.due("but it is in the next ones", x.drawn(3, 1), 1);
+    }
+
+    private static void drawnBehindBack() {
+        d.part("31 behind back");
+        ItByRhyme x = new ItByRhyme();
+        x.image(0);
+        for (int c = 0; c < 3; c++) x.child(c);
+        x.rhyme(1);
+        x.terms(2, 0);
+        x.quarters(0, 2);
+        x.back(0);
+        d.due("no child is there", x.count(0), 0);
+        d.dues("alone", new long[] {x.drawn(0, 0), x.drawn(1, 0), x.drawn(2, 0), x.drawn(3, 0)}, 0, 0, 1, -1);
+        d.dues("in", new long[] {x.drawn(0, 1), x.drawn(1, 1), x.drawn(2, 1), x.drawn(3, 1)}, 0, 0, 1, -1);
+        d.due("refused: no children", x.quarters(0, 1), -3);
+        d.due("leaves the latest", x.drawn(2, 1), 1);
+        x.child(5);
+        x.rhyme(1);
+        x.quarters(0, 1);
+        d.dues("others, of one child", new long[] {x.drawn(0, 0), x.drawn(0, 1), x.drawn(1, 0), x.drawn(2, 1)}, 0, 1, -1, -1);
     }
 
     /** What is told must follow each change of the ring, whatever was told ahead of it. */

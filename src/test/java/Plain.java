@@ -75,7 +75,7 @@ final class Plain {
     int lisps = 0;
     int fault = NONE;
     int stopped = NONE;
-    int[] drawnAlone = null;
+    int[] drawnAlone = new int[0];
     TreeSet<Integer> drawnIn = null;
 
     int refuse(int by) {
@@ -625,7 +625,7 @@ final class Plain {
         if (!isRhyme(rhyme)) return NONE;
         List<Integer> outs = new ArrayList<>();
         int who = leftBy(lawNow(), here(), rhyme, outs);
-        if (i == NONE) return who;
+        if (i == NONE || who == NONE) return who;
         return i >= 0 && i < outs.size() ? outs.get(i) : NONE;
     }
 
@@ -751,7 +751,7 @@ final class Plain {
         int round = w.terms[0];
         int passed = 0;
         Spot spot = here();
-        drawnAlone = new int[6];
+        drawnAlone = new int[w.quick.size()];
         for (int i = 0; i < n; i++) {
             if (spot.in.size() < 2) {
                 if (round == 999) break;
@@ -773,7 +773,7 @@ final class Plain {
     }
 
     int drawn(int child, int what) {
-        if (drawnIn == null || !isChild(child)) return NONE;
+        if (child < 0 || child >= drawnAlone.length) return NONE;
         return what == 0 ? drawnAlone[child] : what == 1 ? (drawnIn.contains(child) ? 1 : 0) : NONE;
     }
 
