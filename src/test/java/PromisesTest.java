@@ -7,6 +7,7 @@ public final class PromisesTest {
         childAndOf();
         rhymeAndBeats();
         asksOfALaw();
+        asksWhateverWasAsked();
         termsAndTheirEdges();
         feedAndEnd();
         rowAndLisps();
@@ -110,6 +111,28 @@ public final class PromisesTest {
         Due.law(y, "beats 3-8;beats 2 if 1/0=1");
         y.force(0);
         d.due("clamped up; broken if", y.asks(0, 0, 0, 0), 1);
+    }
+
+    /** Each question has its own answer, whatever was asked ahead of it. */
+    private static void asksWhateverWasAsked() {
+        d.part("6: many questions");
+        ItByRhyme x = Due.ring(6, 1, 2, 3, 4, 5);
+        Due.law(x, "skips if [child+beat*2+many*3+rhyme]%5<2;turns if [child*3+beat+many+rhyme*2]%4<2;"
+            + "keeps if [child+beat*3+many*2+rhyme]%3=1");
+        x.force(0);
+        for (int many = 6; many >= 0; many--) {
+            for (int r = 0; r <= 4; r += 4) {
+                for (int c = 0; c <= 1; c++) {
+                    for (int b : new int[] {0, 1, 14, 15}) {
+                        String what = "many " + many + ", rhyme " + r + ", child " + c + ", beat " + b;
+                        d.due(what + ": skips", x.asks(r, c, b, 1), (c + b * 2 + many * 3 + r) % 5 < 2 ? 1 : 0);
+                        d.due(what + ": turns", x.asks(r, c, b, 2), (c * 3 + b + many + r * 2) % 4 < 2 ? 1 : 0);
+                        d.due(what + ": keeps", x.asks(r, c, b, 3), (c + b * 3 + many * 2 + r) % 3 == 1 ? 1 : 0);
+                    }
+                }
+            }
+            x.leave(many - 1);
+        }
     }
 
     private static void termsAndTheirEdges() {

@@ -47,7 +47,22 @@ public final class RoomTest {
         return sum;
     }
 
+    /** Behind its 512th call an object may answer what it likes, but it must answer. */
+    private static void useForLong() {
+        ItByRhyme x = new ItByRhyme();
+        fill(x);
+        for (int i = 0; i < 9_000_000; i++) {
+            x.terms(3, i % 10);
+            x.asks(i % 5, i % 6, i % 16, 1 + i % 3);
+            if (i % 10_000 == 0 || i > 999_900 && i < 1_000_100) {
+                x.chances(0, 20);
+                x.game(0);
+            }
+        }
+    }
+
     public static void main(String[] args) {
+        useForLong();
         ThreadMXBean threads = (ThreadMXBean) ManagementFactory.getThreadMXBean();
         long id = Thread.currentThread().getId();
         dear(0);
