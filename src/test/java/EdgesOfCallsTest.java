@@ -192,6 +192,8 @@ public final class EdgesOfCallsTest {
         d.due("there is room again", Due.law(x, "beats 8"), 0);
         d.due("back to the full one", x.back(1), 0);
         d.dues("full", new long[] {x.child(1), x.rhyme(1), Due.law(x, "keeps"), x.count(11), x.asks(0, 0, 0, 0)}, -5, -5, -5, 5, 7);
+        d.dues("its first ones, not those given since", new long[] {x.of(0, 0), x.beats(0), x.force(0), x.asks(0, 0, 0, 0)}, 0, 1, 5, 2);
+        d.dues("its last ones", new long[] {x.of(5, 0), x.beats(4), x.asks(4, 5, 0, 0)}, 5, 5, 2);
     }
 
     private static void counts() {

@@ -24,6 +24,8 @@ public final class EdgesOfTextsTest {
         billionEitherWay();
         dividing();
         deepestSums();
+        allFifty();
+        wordsOfLaws();
         stillMatters();
         sixLaws();
         lawRefused();
@@ -156,6 +158,12 @@ public final class EdgesOfTextsTest {
         fault(true, "skipS", 0);
         fault(true, "skipsS", 5);
         fault(true, "skips,", 5);
+        fault(true, "skipsz", 0);
+        fault(true, "skipsa", 0);
+        fault(true, "skips0", 5);
+        fault(true, "skips9", 5);
+        fault(true, "beats 0z", 7);
+        fault(true, "beats 9a", 7);
         // The bytes next to a, z, 0, 9 are no letters and no digits.
         for (char c : new char[] {'`', '{', '/', ':', '@', 'A', 'Z', 0, 31, 33, 127, 128, 255, '\t', '\n', 225, 176, 160}) {
             fault(true, c + "skips", 0);
@@ -210,6 +218,9 @@ public final class EdgesOfTextsTest {
         faults("1000", -1);
         faults("1001", 6);
         faults("9999", 6);
+        faults("10000", 6);
+        faults("10001", 6);
+        faults("1000000", 6);
         faults("2147483648", 6);
         faults("4294967296", 6);
         faults("18446744073709551616", 6);
@@ -410,6 +421,72 @@ public final class EdgesOfTextsTest {
         sum("2+3*4-5", 9);
         sum("20-2*3+4/2", 15);
         sum("[20-2*3]/2", 7);
+    }
+
+    private static void allFifty() {
+        d.part("II: TEST: BOTH {\"or\" BOTH}. BOTH: PLAIN {\"and\" PLAIN}. PLAIN: \"not\" PLAIN | \"(\" TEST \")\"");
+        // With the 4 and the 5 these are 49 or 50 PARTS.
+        sum("4;beats 5 if " + many("1=1 and ", 23) + "2=2", 5);
+        sum("4;beats 5 if " + many("1=1 and ", 23) + "2=1", 4);
+        sum("4;beats 5 if " + many("1=2 or ", 23) + "2=2", 5);
+        sum("4;beats 5 if " + many("1=2 or ", 23) + "2=1", 4);
+        sum("4;beats 5 if " + many("1=2 or 1=1 and ", 11) + "2=2", 5);
+        sum("4;beats 5 if " + many("1=1 and 1=2 or ", 11) + "2=2", 5);
+        sum("4;beats 5 if " + many("not ", 60) + "1=1", 5);
+        sum("4;beats 5 if " + many("not ", 61) + "1=1", 4);
+        String[] so = {"1<2", "2>1", "2=2", "not 2<1", "not 1>2", "not 1=2", "(1<2)", "not (2<2)"};
+        String[] notSo = {"2<2", "2<1", "1>2", "2>2", "1=2", "not 1<2", "not 2>1", "not 2=2", "(1>2)", "not (1<2)"};
+        for (String yes : so) {
+            sum("4;beats 5 if " + yes, 5);
+            for (String no : notSo) {
+                sum("4;beats 5 if " + no, 4);
+                sum("4;beats 5 if " + yes + " and " + no, 4);
+                sum("4;beats 5 if " + no + " and " + yes, 4);
+                sum("4;beats 5 if " + yes + " or " + no, 5);
+                sum("4;beats 5 if " + no + " or " + yes, 5);
+                sum("4;beats 5 if not (" + yes + " and " + no + ")", 5);
+                sum("4;beats 5 if " + no + " or " + no + " and " + yes, 4);
+                sum("4;beats 5 if (" + yes + " or " + no + ") and " + no, 4);
+            }
+        }
+    }
+
+    private static void wordsOfLaws() {
+        d.part("II: Words: \"child\" | \"quick\" | \"rhyme\" | \"beat\" | \"many\" | \"round\" | \"mood\"");
+        ItByRhyme x = new ItByRhyme();
+        int[] quick = {0, 3, 4, 5, 6, 9};
+        for (int q : quick) x.child(q);
+        for (int r = 0; r < 5; r++) x.rhyme(r + 1);
+        for (String word : new String[] {"child", "quick", "rhyme", "many", "round/100", "mood"}) Due.law(x, "beats 1+" + word);
+        x.force(0);
+        d.dues("child", new long[] {x.asks(4, 0, 9, 0), x.asks(4, 5, 9, 0)}, 1, 6);
+        x.force(1);
+        d.dues("quick", new long[] {x.asks(4, 0, 9, 0), x.asks(4, 1, 9, 0), x.asks(4, 5, 9, 0)}, 1, 4, 10);
+        x.force(2);
+        d.dues("rhyme", new long[] {x.asks(0, 3, 9, 0), x.asks(4, 3, 9, 0)}, 1, 5);
+        x.force(3);
+        d.due("six are in", x.asks(4, 3, 9, 0), 7);
+        for (int c = 0; c < 6; c++) x.leave(c);
+        d.due("none is in", x.asks(4, 3, 9, 0), 1);
+        x.force(4);
+        d.due("round 0", x.asks(4, 3, 9, 0), 1);
+        x.terms(0, 999);
+        d.due("round 999", x.asks(4, 3, 9, 0), 10);
+        x.force(5);
+        d.due("mood 0", x.asks(4, 3, 9, 0), 1);
+        x.terms(3, 9);
+        d.due("mood 9", x.asks(4, 3, 9, 0), 10);
+        ItByRhyme y = Due.ring(2, 1);
+        y.force(Due.law(y, "skips if beat=0;turns if beat=15;keeps if beat>0;beats 7+beat"));
+        d.dues("beat", new long[] {y.asks(0, 0, 0, 1), y.asks(0, 0, 15, 1), y.asks(0, 0, 0, 2), y.asks(0, 0, 15, 2), y.asks(0, 0, 0, 3),
+            y.asks(0, 0, 1, 3), y.asks(0, 0, 15, 0)}, 1, 0, 0, 1, 0, 1, 7);
+        fault(true, "beats done", 6);
+        fault(true, "beats latest", 6);
+        fault(true, "beats at", 6);
+        fault(false, "leave child", 6);
+        fault(false, "leave rhyme", 6);
+        fault(false, "leave beat", 6);
+        fault(false, "leave mood", 6);
     }
 
     private static void stillMatters() {

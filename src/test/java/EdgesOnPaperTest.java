@@ -24,6 +24,7 @@ public final class EdgesOnPaperTest {
         gameChooses();
         chancesFromTo();
         chancesCut();
+        chancesCutToNothing();
         saidFromTo();
         saidRows();
         saidTwoIn();
@@ -35,6 +36,7 @@ public final class EdgesOnPaperTest {
         quartersKept();
         drawnEdges();
         onPaper();
+        firstBehindForce();
         d.close();
     }
 
@@ -146,6 +148,8 @@ public final class EdgesOnPaperTest {
         for (int i = 0; i < 5; i++) d.due("the lowest row", six.alone(5, i), 0);
         d.due("no sixth", six.alone(5, 5), -1);
         for (int i : new int[] {-2, LEAST, MOST}) d.due("alone(5, " + i + ")", six.alone(5, i), -1);
+        ItByRhyme last = Due.ring(2, 1, 3, 5, 7, 2);
+        d.dues("the last rhyme alone", new long[] {last.alone(0, -1), last.alone(0, 0)}, 1, 4);
     }
 
     private static void aloneNone() {
@@ -212,6 +216,9 @@ public final class EdgesOnPaperTest {
         d.due("n 20 is not n 19", x.chances(1, 20) == x.chances(1, 19) ? 1 : 0, 0);
         for (int n : new int[] {-1, 21, LEAST, MOST}) twins.tells("chances(0, " + n + ")", Twins::rich, o -> o.chances(0, n), -1);
         for (int c : new int[] {-1, 4, 6, LEAST, MOST}) twins.tells("chances(" + c + ", 1)", Twins::rich, o -> o.chances(c, 1), -1);
+        ItByRhyme single = Due.ring(3, 1);
+        d.dues("one rhyme", new long[] {single.chances(0, 0), single.chances(0, 1), single.chances(1, 1), single.chances(1, 2),
+            single.chances(2, 2)}, ALL, 0, ALL, 0, ALL);
         d.due("no rhymes, n 0", Due.ring(3).chances(0, 0), -1);
         d.due("no rhymes, n 20", Due.ring(3).chances(0, 20), -1);
         d.due("no children", Due.ring(0, 1).chances(0, 0), -1);
@@ -233,6 +240,21 @@ public final class EdgesOnPaperTest {
         d.due("one out", one.chances(0, 20), 0);
         ItByRhyme none = only(Due.ring(3, 1, 2, 4));
         d.due("nobody is in", none.chances(1, 20), 0);
+    }
+
+    /** The parts by which both are IN are a fifth at each saying: 1 behind 17 of them, 0 behind 18. */
+    private static void chancesCutToNothing() {
+        d.part("III: each part is cut");
+        ItByRhyme x = by("keeps if rhyme=0", Due.ring(2, 1, 1, 1, 1, 1));
+        long both = ALL;
+        long[] alone = {0, 0};
+        for (int n = 0; n <= 20; n++) {
+            d.due("0 behind " + n, x.chances(0, n), both + alone[0]);
+            d.due("1 behind " + n, x.chances(1, n), both + alone[1]);
+            d.due("both behind " + n, n < 18 || both == 0 ? 1 : 0, 1);
+            alone[1 - n % 2] += both / 5 * 4;
+            both /= 5;
+        }
     }
 
     private static void saidFromTo() {
@@ -373,6 +395,10 @@ public final class EdgesOnPaperTest {
         kept.terms(2, 10);
         kept.quarters(7, 1);
         for (int c = 0; c < 6; c++) d.due("asked at the last one that is said", kept.drawn(c, 1), 1);
+        ItByRhyme one = by("keeps if beat=1", Due.ring(2, 1));
+        one.terms(2, 10);
+        one.quarters(7, 1);
+        d.dues("that is beat 1 at least", new long[] {one.drawn(0, 1), one.drawn(1, 1)}, 1, 1);
     }
 
     private static void quartersAndRounds() {
@@ -410,7 +436,15 @@ public final class EdgesOnPaperTest {
         ItByRhyme at = Due.ring(3, 1);
         at.terms(1, 2);
         at.quarters(3, 3);
+        d.dues("from AT on", new long[] {at.drawn(0, 0), at.drawn(1, 0), at.drawn(2, 0)}, 0, 1, 0);
         d.dues("AT is 0 in a new round", new long[] {at.drawn(0, 1), at.drawn(1, 1), at.drawn(2, 1)}, 0, 1, 1);
+        at.terms(1, 5);
+        at.quarters(3, 1);
+        d.due("AT modulo the children", at.drawn(2, 1), 0);
+        ItByRhyme first = Due.ring(2, 2);
+        first.terms(2, 0);
+        first.quarters(3, 60);
+        d.dues("the first one is alone", new long[] {first.drawn(0, 0), first.drawn(1, 0)}, 60, 0);
         ItByRhyme keeps = by("keeps", Due.ring(2, 1));
         d.due("nobody goes: no round passes", keeps.quarters(3, 60), 0);
     }
@@ -459,5 +493,40 @@ public final class EdgesOnPaperTest {
         twins.tells("chances", Twins::rich, o -> o.chances(1, 20), Twins.rich().chances(1, 20));
         twins.tells("said", Twins::rich, o -> o.said(4, -1, 0), Twins.rich().said(4, -1, 0));
         twins.tells("compare", Twins::rich, o -> o.compare(0, 1), Twins.rich().compare(0, 1));
+    }
+
+    /** A LAW that has just been forced holds for whatever is told first. */
+    private static void firstBehindForce() {
+        d.part("III: by that in FORCE");
+        for (int k = 0; k < 8; k++) {
+            ItByRhyme x = Due.ring(2, 1);
+            Due.law(x, "beats 2");
+            int[] want = {1, 0b01, 1, 1, 0, 0, 1, 0};
+            int[] wantByLaw = {0, 0b10, -1, 0, 1, 1, 0, 1};
+            d.due("first of " + k, first(x, k), want[k]);
+            x.force(0);
+            d.due("first by the law of " + k, first(x, k), wantByLaw[k]);
+            x.force(-1);
+            d.due("first without of " + k, first(x, k), want[k]);
+        }
+    }
+
+    private static long first(ItByRhyme x, int k) {
+        return switch (k) {
+            case 0 -> x.left(0, -1);
+            case 1 -> x.safe(1, 0);
+            case 2 -> x.alone(1, -1);
+            case 3 -> x.game(0);
+            case 4 -> x.chances(0, 1) / ALL;
+            case 5 -> x.falls(0, x.asks(0, 0, 0, 0));
+            case 6 -> x.quarters(5, 1) + x.drawn(1, 1);
+            default -> {
+                x.leave(1);
+                x.terms(1, 0);
+                long rows = x.said(1, -1, 0);
+                x.join(1);
+                yield rows;
+            }
+        };
     }
 }
