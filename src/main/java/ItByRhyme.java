@@ -41,7 +41,8 @@ public final class ItByRhyme {
     private static final int PASSES = 3;
 
     private static final int STAYS = 100;
-    private static final int BROKEN = Integer.MIN_VALUE;
+    // Far from every number that a SUM, a TEST can be: those end at 1,000,000,000 either way.
+    private static final int BROKEN = -2000000000;
 
     // Who is IN, as bits, and AT make one number: (IN * PLACES) + AT.
     private static final int PLACES = 6;

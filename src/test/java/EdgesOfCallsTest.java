@@ -26,6 +26,7 @@ public final class EdgesOfCallsTest {
         refusedCounts();
         statusOfEach();
         statusOfNoOther();
+        noSuchChild();
         anyNumbers();
         d.close();
     }
@@ -314,6 +315,21 @@ public final class EdgesOfCallsTest {
             d.due("status again", x.status(), ahead);
             d.due("refused", x.count(6), Twins.rich().count(6) - ahead);
         }
+    }
+
+    /** Numbers that a shift by so many bits, or an index, could take for one of the CHILDREN's. */
+    private static void noSuchChild() {
+        d.part("I: -2 there is no such CHILD");
+        ItByRhyme x = Due.ring(2, 2, 1);
+        x.quarters(3, 1);
+        for (int n : new int[] {2, 5, 6, 31, 32, 33, 64, 256, -1, -31, -32, LEAST, LEAST + 1, MOST, MOST - 30}) {
+            d.dues("of " + n, new long[] {x.of(n, 0), x.of(n, 1), x.asks(0, n, 1, 0), x.asks(0, n, 1, 1)}, -1, -1, -1, -1);
+            d.dues("on paper " + n, new long[] {x.safe(n, 0), x.alone(n, -1), x.alone(n, 0), x.chances(n, 0), x.chances(n, 1)},
+                -1, -1, -1, -1, -1);
+            d.dues("drawn " + n, new long[] {x.drawn(n, 0), x.drawn(n, 1)}, -1, -1);
+            d.dues("moves " + n, new long[] {x.join(n), x.leave(n), x.status(), x.count(1)}, -2, -2, -2, 2);
+        }
+        d.dues("those that are", new long[] {x.alone(0, -1), x.alone(1, -1), x.chances(1, 0)}, 1, 1, 1000000000000L);
     }
 
     /** No numbers, in no state, may make a call fail. */

@@ -9,6 +9,8 @@ import java.util.ArrayList;
 import java.util.Collections;
 import java.util.List;
 import java.util.TreeSet;
+import java.util.regex.Matcher;
+import java.util.regex.Pattern;
 
 /** The rules of LANGUAGE.md that can be looked at from outside, and the document's face. */
 public final class LanguageTest {
@@ -26,6 +28,7 @@ public final class LanguageTest {
         face(Files.readString(Path.of("../shared/DOC.md")));
         members();
         words(source);
+        library(source);
         lengths(source);
         System.out.println(wrong == 0 ? "the rules are kept" : wrong + " rules are not kept");
         if (wrong != 0) System.exit(1);
@@ -96,6 +99,18 @@ public final class LanguageTest {
         for (String line : code.split("\n")) {
             need(!line.startsWith("import") || line.equals("import java.util.Arrays;"), "import: " + line);
             need(!line.matches(".*\\bstatic \\{.*"), "no static block");
+        }
+    }
+
+    /** Rule 4: of the library's classes the functions that it lists, and nothing else. */
+    private static void library(String source) {
+        List<String> functions = List.of("Integer.bitCount", "Integer.numberOfTrailingZeros", "Math.max", "Math.min",
+            "System.arraycopy", "Arrays.fill");
+        Matcher m = Pattern.compile("\\b(Integer|Long|Math|System|Arrays|String|Character|Boolean)\\s*\\.\\s*(\\w+\\s*\\(?)")
+            .matcher(bare(source).replace("import java.util.Arrays;", ""));
+        while (m.find()) {
+            need(m.group(2).endsWith("(") && functions.contains(m.group(1) + "." + m.group(2).replace("(", "").strip()),
+                "not of rule 4: " + m.group());
         }
     }
 
