@@ -91,7 +91,7 @@ public final class UsedAgainTest {
                 int mood = (i * 7 + turns) % 10;
                 int beat = i % turns % 16;
                 x.terms(3, mood);
-                int what = 1 + i / turns % 3;
+                int what = 1 + turns % 3;
                 int so = what == 1 ? 1 - (mood + beat) % 2 : what == 2 ? mood / 5 : (mood + 1) % 3 == 1 ? 1 : 0;
                 d.due("turn " + i + " of " + turns + ": asks " + what, x.asks(0, 1, beat, what), so);
             }
